@@ -1,0 +1,59 @@
+/** What several tests do with an object. */
+final class Calls {
+    static final int INVALID = -1;
+    static final int ILLEGAL = -2;
+    static final int FULL = -3;
+    static final int NONE = -9;
+    static final int[] BEYOND = {Integer.MIN_VALUE, Integer.MIN_VALUE + 1, -1000, -9, -2, -1, 1001, Integer.MAX_VALUE};
+
+    private Calls() {
+    }
+
+    static HedgeChains typed(HedgeChains x, String text) {
+        for (int i = 0; i < text.length(); i++) {
+            x.append(text.charAt(i));
+        }
+        return x;
+    }
+
+    /** Answers what read answers. */
+    static int readHedge(HedgeChains x, int field, String text) {
+        x.clearText();
+        return typed(x, text).read(field);
+    }
+
+    static HedgeChains with(int field, String text) {
+        HedgeChains x = new HedgeChains();
+        readHedge(x, field, text);
+        return x;
+    }
+
+    /** What count tells but for the states in the history and the text, which snapshots and undo leave as they are. */
+    static String counted(HedgeChains x) {
+        StringBuilder all = new StringBuilder();
+        for (int what = 0; what < 16; what++) {
+            all.append(x.count(what)).append(' ');
+        }
+        return all.toString();
+    }
+
+    /** What can be seen of the fields and of three chains of each, in 138 calls, as an object has but 512. */
+    static String seenBesidesHistory(HedgeChains x) {
+        StringBuilder all = new StringBuilder(counted(x));
+        for (int field = 0; field < 6; field++) {
+            for (int what = 0; what <= 10; what++) {
+                all.append(x.field(field, what)).append(' ');
+            }
+            int[] chains = {0, 2, x.field(field, 0) - 1};
+            for (int chain : chains) {
+                all.append(x.chain(field, chain, 0)).append(',').append(x.chain(field, chain, 1)).append(',')
+                        .append(x.chain(field, chain, 2)).append(' ');
+            }
+        }
+        return all.toString();
+    }
+
+    static String seen(HedgeChains x) {
+        return seenBesidesHistory(x) + x.count(16) + " " + x.count(17);
+    }
+}

@@ -1,0 +1,26 @@
+/** Counts the answers that are not as due, and ends the test with them. */
+final class Check {
+    private final String test;
+    private int asked = 0;
+    private int wrong = 0;
+
+    Check(String test) {
+        this.test = test;
+    }
+
+    void due(String call, long got, long want) {
+        asked++;
+        if (got != want) {
+            wrong++;
+            System.out.println(test + ": " + call + " answered " + got + ", due is " + want);
+        }
+    }
+
+    /** A test that asked nothing has not tested anything. */
+    void end() {
+        System.out.println(test + ": " + asked + " answers, " + wrong + " wrong");
+        if (wrong > 0 || asked == 0) {
+            System.exit(1);
+        }
+    }
+}

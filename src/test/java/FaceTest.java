@@ -1,0 +1,63 @@
+import java.lang.reflect.Constructor;
+import java.lang.reflect.Field;
+import java.lang.reflect.Method;
+import java.lang.reflect.Modifier;
+import java.util.Set;
+import java.util.TreeSet;
+
+/** The public face: just the members that the document shows, and no others but private ones. */
+public final class FaceTest {
+    private static final String[] METHODS = {
+        "append 1", "bestOrder 1", "chain 3", "clearText 0", "contract 4", "count 1", "cut 2", "doneIn 1", "field 2",
+        "giveBack 1", "grub 2", "lay 3", "pass 1", "payDebt 0", "plant 2", "read 1", "restore 1", "set 2",
+        "stakesIn 1", "take 1", "toLay 2", "undo 0"};
+
+    public static void main(String[] args) throws Exception {
+        Check check = new Check("FaceTest");
+        check.due("the class is public and final", HedgeChains.class.getModifiers(), Modifier.PUBLIC | Modifier.FINAL);
+        constants(check);
+        constructors(check);
+        methods(check);
+        check.end();
+    }
+
+    private static void constants(Check check) throws Exception {
+        String[] names = {"INVALID_ARGUMENT", "ILLEGAL_STATE", "CAPACITY_EXCEEDED", "NONE"};
+        int[] values = {-1, -2, -3, -9};
+        for (int i = 0; i < names.length; i++) {
+            Field constant = HedgeChains.class.getField(names[i]);
+            check.due(names[i], constant.getInt(null), values[i]);
+            check.due(names[i] + " modifiers", constant.getModifiers(),
+                    Modifier.PUBLIC | Modifier.STATIC | Modifier.FINAL);
+        }
+        int open = 0;
+        for (Field any : HedgeChains.class.getDeclaredFields()) {
+            check.due(any.getName() + " is final", any.getModifiers() & Modifier.FINAL, Modifier.FINAL);
+            open += Modifier.isPrivate(any.getModifiers()) ? 0 : 1;
+        }
+        check.due("fields that are not private", open, names.length);
+    }
+
+    private static void constructors(Check check) {
+        Constructor<?>[] all = HedgeChains.class.getDeclaredConstructors();
+        check.due("constructors", all.length, 1);
+        check.due("constructor modifiers", all[0].getModifiers(), Modifier.PUBLIC);
+        check.due("constructor parameters", all[0].getParameterCount(), 0);
+    }
+
+    private static void methods(Check check) {
+        Set<String> due = new TreeSet<>(Set.of(METHODS));
+        Set<String> open = new TreeSet<>();
+        for (Method method : HedgeChains.class.getDeclaredMethods()) {
+            if (!Modifier.isPrivate(method.getModifiers())) {
+                open.add(method.getName() + " " + method.getParameterCount());
+                check.due(method.getName() + " modifiers", method.getModifiers(), Modifier.PUBLIC);
+                check.due(method.getName() + " answers an int", method.getReturnType() == int.class ? 1 : 0, 1);
+                for (Class<?> parameter : method.getParameterTypes()) {
+                    check.due(method.getName() + " takes ints", parameter == int.class ? 1 : 0, 1);
+                }
+            }
+        }
+        check.due("methods " + open, open.equals(due) ? 1 : 0, 1);
+    }
+}
