@@ -419,11 +419,11 @@ public final class HedgeChains {
         }
 
         private boolean isToLay(int chain) {
-            return kindOf(chain) == STANDS && thicknessOf(chain) >= THICK_TO_LAY;
+            return has(chain) && kinds[chain] == STANDS && thicknesses[chain] >= THICK_TO_LAY;
         }
 
         private boolean isToCut(int chain) {
-            return kindOf(chain) == STANDS && thicknessOf(chain) >= THICK_TO_CUT;
+            return has(chain) && kinds[chain] == STANDS && thicknesses[chain] >= THICK_TO_CUT;
         }
 
         private int numberOf(int kind) {
@@ -964,7 +964,7 @@ public final class HedgeChains {
         private void reckon(Land land) {
             lookAt(land);
             least[0] = 0;
-            for (int left = 1; left <= all; left++) {
+            for (int left = 1; left < least.length; left++) {
                 if ((left & ~all) == 0) {
                     least[left] = leastOf(left);
                 }

@@ -164,6 +164,12 @@ public final class ForecastTest {
         }
         due("no fines", x.bestOrder(0), 0);
         due("the smallest field", x.bestOrder(1), 1);
+        x.contract(0, 0, 0, 0);
+        due("field 0", x.bestOrder(1), 0);
+        x.giveBack(0);
+        x.grub(1, 0);
+        Calls.readHedge(x, 1, "l1");
+        due("a contract that has ended is of no matter", x.bestOrder(1), 2);
         HedgeChains same = new HedgeChains();
         same.contract(5, 0, 2, 3);
         same.contract(2, 0, 2, 3);

@@ -5,6 +5,7 @@ public final class SnapshotTest {
     public static void main(String[] args) {
         takes();
         restores();
+        contractsComeBack();
         slotErrors();
         undoes();
         undoesSlots();
@@ -19,11 +20,11 @@ public final class SnapshotTest {
 
     private static HedgeChains busy() {
         HedgeChains x = Calls.with(2, "t5*4l3*2gp");
-        x.contract(2, 3, 1, 4);
+        x.contract(2, 3, 1, 1);
         x.lay(2, 0, 2);
         x.cut(2, 2);
         x.plant(2, 6);
-        x.set(0, 40);
+        x.set(0, 20);
         x.set(2, 33);
         x.pass(7);
         return x;
@@ -47,14 +48,18 @@ public final class SnapshotTest {
         HedgeChains x = busy();
         x.take(0);
         String before = Calls.seenBesidesHistory(x);
-        x.lay(0, 0, 1);
+        x.lay(2, 3, 1);
         x.giveBack(2);
+        x.contract(2, 8, 9, 1);
         x.grub(2, 0);
+        x.plant(2, 0);
+        x.set(0, 5);
         x.set(1, 20);
         x.set(2, 90);
         Calls.readHedge(x, 5, "t2");
         x.contract(4, 5, 6, 7);
         x.pass(60);
+        due("each number but that of snapshots is another one", sameCounts(before, Calls.counted(x)), 1);
         due("restore(0)", x.restore(0), 7);
         due("all is as it was", Calls.seenBesidesHistory(x).equals(before) ? 1 : 0, 1);
         due("the history goes on", x.count(16), 5);
@@ -66,6 +71,36 @@ public final class SnapshotTest {
         due("restore(0) leaves slot 1", x.restore(0), 7);
         due("two snapshots", x.count(15), 2);
         due("restore(1)", x.restore(1), 8);
+    }
+
+    private static void contractsComeBack() {
+        HedgeChains x = new HedgeChains();
+        x.contract(3, 4, 5, 6);
+        x.take(0);
+        x.giveBack(3);
+        x.contract(3, 7, 8, 9);
+        due("undo()", x.undo(), 3);
+        due("no contract", x.field(3, 7), 0);
+        due("another one", x.contract(3, 10, 11, 2), 10);
+        due("restore(0)", x.restore(0), 0);
+        due("price", x.field(3, 8), 4);
+        due("last week", x.field(3, 9), 5);
+        due("fine", x.field(3, 10), 6);
+        due("undo()", x.undo(), 4);
+        due("price", x.field(3, 8), 10);
+        due("last week", x.field(3, 9), 11);
+        due("fine", x.field(3, 10), 2);
+    }
+
+    /** A number that stayed the same would not show whether it is restored. */
+    private static int sameCounts(String before, String after) {
+        String[] one = before.split(" ");
+        String[] other = after.split(" ");
+        int same = 0;
+        for (int what = 0; what < 16; what++) {
+            same += one[what].equals(other[what]) ? 1 : 0;
+        }
+        return same;
     }
 
     private static void slotErrors() {

@@ -147,6 +147,15 @@ public final class WorkTest {
         due("pass(10)", x.pass(10), 0);
         due("in a closed week", x.plant(5, 15), 28);
         due("2 coins are too few", x.plant(5, 16), Calls.ILLEGAL);
+        HedgeChains rich = Calls.with(0, "g*2");
+        rich.contract(1, 0, 1, 9);
+        rich.giveBack(1);
+        rich.cut(2, 0);
+        rich.contract(2, 1, 1, 0);
+        due("a coin comes in", rich.lay(2, 1, 1), 1);
+        due("6 coins", rich.plant(0, 0), 23);
+        due("3 coins are enough", rich.plant(0, 1), 21);
+        due("none is left", rich.count(5), 0);
         HedgeChains one = Calls.with(0, "g");
         one.set(2, 1);
         one.pass(1);
