@@ -28,6 +28,12 @@ final class Calls {
         return x;
     }
 
+    static void weeks(HedgeChains x, int many) {
+        for (int left = many; left > 0; left -= 60) {
+            x.pass(Math.min(left, 60));
+        }
+    }
+
     /** What count tells but for the states in the history and the text, which snapshots and undo leave as they are. */
     static String counted(HedgeChains x) {
         StringBuilder all = new StringBuilder();
@@ -55,5 +61,33 @@ final class Calls {
 
     static String seen(HedgeChains x) {
         return seenBesidesHistory(x) + x.count(16) + " " + x.count(17);
+    }
+
+    /**
+     * All that can be seen, each chain too, in 270 calls and more for longer hedges: too many for a second look at the
+     * same object, so that tests look at two that were treated alike.
+     */
+    static String whole(HedgeChains x) {
+        return wholeLand(x) + x.count(15) + " " + x.count(16) + " " + x.count(17);
+    }
+
+    /** What a snapshot keeps: all that can be seen but the number of snapshots, of states and of characters. */
+    static String wholeLand(HedgeChains x) {
+        StringBuilder all = new StringBuilder();
+        for (int what = 0; what < 15; what++) {
+            all.append(x.count(what)).append(' ');
+        }
+        for (int field = 0; field < 6; field++) {
+            all.append("| ");
+            for (int what = 0; what <= 10; what++) {
+                all.append(x.field(field, what)).append(' ');
+            }
+            int length = Math.min(x.field(field, 0), 30);
+            for (int chain = 0; chain < length; chain++) {
+                all.append(x.chain(field, chain, 0)).append(',').append(x.chain(field, chain, 1)).append(',')
+                        .append(x.chain(field, chain, 2)).append(' ');
+            }
+        }
+        return all.toString();
     }
 }

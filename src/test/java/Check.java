@@ -16,10 +16,23 @@ final class Check {
         }
     }
 
+    /** For what is seen of an object in many calls. */
+    void same(String what, String got, String want) {
+        asked++;
+        if (!got.equals(want)) {
+            wrong++;
+            System.out.println(test + ": " + what + ": seen is " + got + ", due is " + want);
+        }
+    }
+
     /** A test that asked nothing has not tested anything. */
+    boolean holds() {
+        return wrong == 0 && asked > 0;
+    }
+
     void end() {
         System.out.println(test + ": " + asked + " answers, " + wrong + " wrong");
-        if (wrong > 0 || asked == 0) {
+        if (!holds()) {
             System.exit(1);
         }
     }
