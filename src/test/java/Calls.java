@@ -4,7 +4,9 @@ final class Calls {
     static final int ILLEGAL = -2;
     static final int FULL = -3;
     static final int NONE = -9;
-    static final int[] BEYOND = {Integer.MIN_VALUE, Integer.MIN_VALUE + 1, -1000, -9, -2, -1, 1001, Integer.MAX_VALUE};
+    /** Out of the range of every argument, near to it and far, and some that are within it if bits are cut off. */
+    static final int[] BEYOND = {Integer.MIN_VALUE, Integer.MIN_VALUE + 1, -65536, -1000, -9, -2, -1, 256, 1001, 65536, 65536 + 't',
+        Integer.MAX_VALUE};
 
     private Calls() {
     }

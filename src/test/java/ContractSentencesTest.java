@@ -1,7 +1,5 @@
 /** The sentences on contracts and coins: contract, giveBack and payDebt. */
 public final class ContractSentencesTest {
-    private static final int[] FAR = {-1000, -9, -2, 1001, 65536, Integer.MIN_VALUE, Integer.MAX_VALUE};
-
     public static void main(String[] args) throws Exception {
         Sentences.run(ContractSentencesTest.class);
     }
@@ -32,7 +30,7 @@ public final class ContractSentencesTest {
         HedgeChains x = new HedgeChains();
         check.due("contract(0, -1, 0, 0)", x.contract(0, -1, 0, 0), Calls.INVALID);
         check.due("contract(0, 21, 0, 0)", x.contract(0, 21, 0, 0), Calls.INVALID);
-        for (int price : FAR) {
+        for (int price : Calls.BEYOND) {
             check.due("contract(0, " + price + ", 0, 0)", x.contract(0, price, 0, 0), Calls.INVALID);
         }
     }
@@ -50,7 +48,7 @@ public final class ContractSentencesTest {
         HedgeChains x = new HedgeChains();
         check.due("contract(0, 0, -1, 0)", x.contract(0, 0, -1, 0), Calls.INVALID);
         check.due("contract(0, 0, 101, 0)", x.contract(0, 0, 101, 0), Calls.INVALID);
-        for (int weeks : FAR) {
+        for (int weeks : Calls.BEYOND) {
             check.due("contract(0, 0, " + weeks + ", 0)", x.contract(0, 0, weeks, 0), Calls.INVALID);
         }
         x.contract(0, 0, 3, 0);
@@ -68,7 +66,7 @@ public final class ContractSentencesTest {
         HedgeChains x = new HedgeChains();
         check.due("contract(0, 0, 0, -1)", x.contract(0, 0, 0, -1), Calls.INVALID);
         check.due("contract(0, 0, 0, 10)", x.contract(0, 0, 0, 10), Calls.INVALID);
-        for (int fine : FAR) {
+        for (int fine : Calls.BEYOND) {
             check.due("contract(0, 0, 0, " + fine + ")", x.contract(0, 0, 0, fine), Calls.INVALID);
         }
     }
@@ -209,7 +207,7 @@ public final class ContractSentencesTest {
         check.due("giveBack(3) again", x.giveBack(3), Calls.ILLEGAL);
         check.due("giveBack(-1)", x.giveBack(-1), Calls.INVALID);
         check.due("giveBack(6)", x.giveBack(6), Calls.INVALID);
-        for (int field : FAR) {
+        for (int field : Calls.BEYOND) {
             check.due("giveBack(" + field + ")", x.giveBack(field), Calls.INVALID);
         }
     }

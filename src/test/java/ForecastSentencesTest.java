@@ -1,7 +1,5 @@
 /** The sentences on what could be: toLay, stakesIn, doneIn and bestOrder. */
 public final class ForecastSentencesTest {
-    private static final int[] FAR = {-1000, -9, -2, 7, 1001, 65536, Integer.MIN_VALUE, Integer.MAX_VALUE};
-
     public static void main(String[] args) throws Exception {
         Sentences.run(ForecastSentencesTest.class);
     }
@@ -36,7 +34,7 @@ public final class ForecastSentencesTest {
         for (int what : new int[] {-1, 2, 3}) {
             check.due("toLay(0, " + what + ")", x.toLay(0, what), Calls.INVALID);
         }
-        for (int what : FAR) {
+        for (int what : Calls.BEYOND) {
             check.due("toLay(0, " + what + ")", x.toLay(0, what), Calls.INVALID);
         }
     }
@@ -49,7 +47,7 @@ public final class ForecastSentencesTest {
         check.due("toLay(6, 0)", x.toLay(6, 0), Calls.INVALID);
         check.due("toLay(-1, 1)", x.toLay(-1, 1), Calls.INVALID);
         check.due("toLay(6, 2)", x.toLay(6, 2), Calls.INVALID);
-        for (int field : FAR) {
+        for (int field : Calls.BEYOND) {
             check.due("toLay(" + field + ", 0)", x.toLay(field, 0), Calls.INVALID);
         }
         x.lay(5, 0, 4);
@@ -97,7 +95,7 @@ public final class ForecastSentencesTest {
         check.due("stakesIn(5)", x.stakesIn(5), 40);
         check.due("stakesIn(6)", x.stakesIn(6), Calls.INVALID);
         check.due("stakesIn(-1)", x.stakesIn(-1), Calls.INVALID);
-        for (int field : FAR) {
+        for (int field : Calls.BEYOND) {
             check.due("stakesIn(" + field + ")", x.stakesIn(field), Calls.INVALID);
         }
     }
@@ -212,7 +210,7 @@ public final class ForecastSentencesTest {
         check.due("doneIn(5)", x.doneIn(5), 1);
         check.due("doneIn(-1)", x.doneIn(-1), Calls.INVALID);
         check.due("doneIn(6)", x.doneIn(6), Calls.INVALID);
-        for (int field : FAR) {
+        for (int field : Calls.BEYOND) {
             check.due("doneIn(" + field + ")", x.doneIn(field), Calls.INVALID);
         }
     }
@@ -449,7 +447,7 @@ public final class ForecastSentencesTest {
             check.due("bestOrder(1)", x.bestOrder(1), contracts == 0 ? Calls.NONE : 5);
             check.due("bestOrder(-1)", x.bestOrder(-1), Calls.INVALID);
             check.due("bestOrder(2)", x.bestOrder(2), Calls.INVALID);
-            for (int what : FAR) {
+            for (int what : Calls.BEYOND) {
                 check.due("bestOrder(" + what + ")", x.bestOrder(what), Calls.INVALID);
             }
             x.contract(5, 0, 0, 1);

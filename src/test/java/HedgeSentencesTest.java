@@ -1,8 +1,5 @@
 /** The sentences on fields, hedges and chains, and on the arguments that name a field or a chain. */
 public final class HedgeSentencesTest {
-    private static final int[] NO_FIELDS = {-1, 6, 7, -6, 256, -1000, Integer.MIN_VALUE, Integer.MAX_VALUE};
-    private static final int[] NO_CHAINS = {-1, -2, -30, 31, 256, Integer.MIN_VALUE, Integer.MAX_VALUE};
-
     private interface OnField {
         int answer(HedgeChains x, int field);
     }
@@ -33,7 +30,8 @@ public final class HedgeSentencesTest {
         for (int field = 0; field <= 5; field++) {
             check.due("field(" + field + ", 0)", x.field(field, 0), 10);
         }
-        for (int field : NO_FIELDS) {
+        check.due("field(6, 0)", x.field(6, 0), Calls.INVALID);
+        for (int field : Calls.BEYOND) {
             check.due("field(" + field + ", 0)", x.field(field, 0), Calls.INVALID);
         }
         Calls.readHedge(x, 0, "g");
@@ -67,7 +65,8 @@ public final class HedgeSentencesTest {
         for (int field = 0; field <= 5; field++) {
             check.due(call + " of field " + field, on.answer(smallHedges(), field), due);
         }
-        for (int field : NO_FIELDS) {
+        check.due(call + " of field 6", on.answer(smallHedges(), 6), Calls.INVALID);
+        for (int field : Calls.BEYOND) {
             check.due(call + " of field " + field, on.answer(smallHedges(), field), Calls.INVALID);
         }
     }
@@ -116,7 +115,7 @@ public final class HedgeSentencesTest {
             check.due(call + " of the first of " + length, on.answer(Calls.with(3, text), 0), due);
             check.due(call + " of the last of " + length, on.answer(Calls.with(3, text), length - 1), due);
             check.due(call + " of one beyond " + length, on.answer(Calls.with(3, text), length), Calls.INVALID);
-            for (int chain : NO_CHAINS) {
+            for (int chain : Calls.BEYOND) {
                 check.due(call + " of chain " + chain, on.answer(Calls.with(3, text), chain), Calls.INVALID);
             }
         }

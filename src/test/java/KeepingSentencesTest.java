@@ -1,7 +1,8 @@
+import java.util.ArrayList;
+import java.util.List;
+
 /** The sentences on snapshots and undo, and on which calls are actions. */
 public final class KeepingSentencesTest {
-    private static final int[] FAR = {-1000, -9, -2, 3, 1001, 65536, Integer.MIN_VALUE, Integer.MAX_VALUE};
-
     private interface Call {
         int answer(HedgeChains x);
     }
@@ -155,7 +156,7 @@ public final class KeepingSentencesTest {
         check.due("take(1)", x.take(1), 1000);
         check.due("take(-1)", x.take(-1), Calls.INVALID);
         check.due("take(2)", x.take(2), Calls.INVALID);
-        for (int slot : FAR) {
+        for (int slot : Calls.BEYOND) {
             check.due("take(" + slot + ")", x.take(slot), Calls.INVALID);
         }
     }
@@ -176,6 +177,13 @@ public final class KeepingSentencesTest {
         changeAll(y);
         y.restore(0);
         check.same("changes after a restore are not in it", Calls.wholeLand(y), Calls.wholeLand(busy()));
+        HedgeChains two = busy();
+        two.take(0);
+        two.take(1);
+        two.restore(0);
+        changeAll(two);
+        two.restore(1);
+        check.same("nor in another one that was taken with it", Calls.wholeLand(two), Calls.wholeLand(busy()));
     }
 
     @Holds("Returns the present week then; INVALID_ARGUMENT if slot is out of range; ILLEGAL_STATE if the slot is empty.")
@@ -189,7 +197,7 @@ public final class KeepingSentencesTest {
         check.due("restore(0)", x.restore(0), Calls.ILLEGAL);
         check.due("restore(-1)", x.restore(-1), Calls.INVALID);
         check.due("restore(2)", x.restore(2), Calls.INVALID);
-        for (int slot : FAR) {
+        for (int slot : Calls.BEYOND) {
             check.due("restore(" + slot + ")", x.restore(slot), Calls.INVALID);
         }
         x.take(0);
@@ -393,7 +401,7 @@ public final class KeepingSentencesTest {
     static void undoAmongActions(Check check) {
         String calls = "auaauuaaauuuaaaaauaaaaaaauuaaauuuuuuaaaaaaaaaaaauaauaaauaaaauuuuuuaauaauaauaauuuuua";
         HedgeChains x = new HedgeChains();
-        java.util.List<Integer> weeks = new java.util.ArrayList<>();
+        List<Integer> weeks = new ArrayList<>();
         int week = 0;
         for (int i = 0; i < calls.length(); i++) {
             if (calls.charAt(i) == 'a') {

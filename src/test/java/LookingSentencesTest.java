@@ -1,7 +1,5 @@
 /** The sentences on what count, field and chain tell. */
 public final class LookingSentencesTest {
-    private static final int[] FAR = {-1000, -9, -2, 100, 256, 1000, Integer.MIN_VALUE, Integer.MAX_VALUE};
-
     public static void main(String[] args) throws Exception {
         Sentences.run(LookingSentencesTest.class);
     }
@@ -177,7 +175,7 @@ public final class LookingSentencesTest {
             check.due("count(" + what + ") tells a number", x.count(what) >= 0 ? 1 : 0, 1);
         }
         check.due("count(18)", x.count(18), Calls.INVALID);
-        for (int what : FAR) {
+        for (int what : Calls.BEYOND) {
             check.due("count(" + what + ")", x.count(what), Calls.INVALID);
         }
     }
@@ -259,7 +257,7 @@ public final class LookingSentencesTest {
             check.due("field(1, " + what + ") tells a value", x.field(1, what) >= 0 ? 1 : 0, 1);
         }
         check.due("field(1, 11)", x.field(1, 11), Calls.INVALID);
-        for (int what : FAR) {
+        for (int what : Calls.BEYOND) {
             check.due("field(1, " + what + ")", x.field(1, what), Calls.INVALID);
             check.due("field(" + what + ", 1)", x.field(what, 1), Calls.INVALID);
         }
@@ -300,7 +298,7 @@ public final class LookingSentencesTest {
         }
         check.due("chain(3, 0, -1)", x.chain(3, 0, -1), Calls.INVALID);
         check.due("chain(3, 0, 3)", x.chain(3, 0, 3), Calls.INVALID);
-        for (int far : FAR) {
+        for (int far : Calls.BEYOND) {
             check.due("chain(3, 0, " + far + ")", x.chain(3, 0, far), Calls.INVALID);
             check.due("chain(3, " + far + ", 0)", x.chain(3, far, 0), Calls.INVALID);
             check.due("chain(" + far + ", 0, 0)", x.chain(far, 0, 0), Calls.INVALID);

@@ -1,6 +1,7 @@
 import java.lang.reflect.Method;
 import java.nio.file.Files;
 import java.nio.file.Path;
+import java.util.Arrays;
 import java.util.List;
 import java.util.Set;
 import java.util.TreeSet;
@@ -78,7 +79,7 @@ public final class SentencesTest {
                 String held = Sentences.words(test);
                 check.due("in the document stands: " + held, words.contains(held) ? 1 : 0, 1);
                 for (int at = left.indexOf(held); at >= 0; at = left.indexOf(held, at + 1)) {
-                    java.util.Arrays.fill(unheld, at, at + held.length(), '#');
+                    Arrays.fill(unheld, at, at + held.length(), '#');
                 }
             }
         }

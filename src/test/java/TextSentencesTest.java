@@ -1,7 +1,5 @@
 /** The sentences on the text: append, clearText and read. */
 public final class TextSentencesTest {
-    private static final int[] FAR = {-1000, -9, -2, 1001, 65536, 65536 + 't', Integer.MIN_VALUE, Integer.MAX_VALUE};
-
     public static void main(String[] args) throws Exception {
         Sentences.run(TextSentencesTest.class);
     }
@@ -55,7 +53,7 @@ public final class TextSentencesTest {
         check.due("append(0)", x.append(0), Calls.INVALID);
         check.due("append(-1)", x.append(-1), Calls.INVALID);
         check.due("append(256)", x.append(256), Calls.INVALID);
-        for (int character : FAR) {
+        for (int character : Calls.BEYOND) {
             check.due("append(" + character + ")", x.append(character), Calls.INVALID);
         }
         check.due("length", x.count(17), 60);
@@ -253,7 +251,7 @@ public final class TextSentencesTest {
         check.due("fault 80", Calls.readHedge(x, 0, "g".repeat(79) + "l"), -1080);
         check.due("read(-1)", x.read(-1), Calls.INVALID);
         check.due("read(6)", x.read(6), Calls.INVALID);
-        for (int field : FAR) {
+        for (int field : Calls.BEYOND) {
             check.due("read(" + field + ")", x.read(field), Calls.INVALID);
         }
     }

@@ -1,7 +1,5 @@
 /** The sentences on weeks, on what a week brings, and on what is set. */
 public final class WeekSentencesTest {
-    private static final int[] FAR = {-1000, -9, -2, 1001, 65536, Integer.MIN_VALUE, Integer.MAX_VALUE};
-
     public static void main(String[] args) throws Exception {
         Sentences.run(WeekSentencesTest.class);
     }
@@ -278,7 +276,7 @@ public final class WeekSentencesTest {
     static void weeksFarOutOfRange(Check check) {
         HedgeChains x = inWeek(1000);
         HedgeChains y = new HedgeChains();
-        for (int weeks : FAR) {
+        for (int weeks : Calls.BEYOND) {
             check.due("pass(" + weeks + ")", y.pass(weeks), Calls.INVALID);
             check.due("pass(" + weeks + ") in week 1000", x.pass(weeks), Calls.INVALID);
         }
@@ -327,7 +325,7 @@ public final class WeekSentencesTest {
                 check.due("set(" + what + ", " + value + ")", x.set(what, value), Calls.INVALID);
                 check.due("what was set", x.count(12 + what), greatest[what]);
             }
-            for (int value : FAR) {
+            for (int value : Calls.BEYOND) {
                 check.due("set(" + what + ", " + value + ")", x.set(what, value), Calls.INVALID);
             }
         }
@@ -398,7 +396,7 @@ public final class WeekSentencesTest {
             check.due("set(" + each[0] + ", " + each[1] + ")", x.set(each[0], each[1]), previous[each[0]]);
             previous[each[0]] = each[1];
         }
-        for (int what : FAR) {
+        for (int what : Calls.BEYOND) {
             check.due("set(" + what + ", 1)", x.set(what, 1), Calls.INVALID);
         }
         check.due("set(-1, 1)", x.set(-1, 1), Calls.INVALID);

@@ -1,7 +1,5 @@
 /** The sentences on work, stakes and coins: lay, cut, plant and grub. */
 public final class WorkSentencesTest {
-    private static final int[] FAR = {-1000, -9, -2, 100, 256, 1000, Integer.MIN_VALUE, Integer.MAX_VALUE};
-
     public static void main(String[] args) throws Exception {
         Sentences.run(WorkSentencesTest.class);
     }
@@ -96,7 +94,7 @@ public final class WorkSentencesTest {
         check.due("cut of t4 with no work", x.cut(1, 0), Calls.ILLEGAL);
         check.due("cut of a chain that is not there", x.cut(0, 5), Calls.INVALID);
         check.due("cut in a field that is not there", x.cut(6, 0), Calls.INVALID);
-        for (int far : FAR) {
+        for (int far : Calls.BEYOND) {
             check.due("cut(" + far + ", 0)", x.cut(far, 0), Calls.INVALID);
             check.due("cut(0, " + far + ")", x.cut(0, far), Calls.INVALID);
         }
@@ -219,7 +217,7 @@ public final class WorkSentencesTest {
         for (int many : new int[] {0, -1, 31, 32}) {
             check.due("lay(0, 0, " + many + ")", thirtyToLay().lay(0, 0, many), Calls.INVALID);
         }
-        for (int many : FAR) {
+        for (int many : Calls.BEYOND) {
             check.due("lay(0, 0, " + many + ")", thirtyToLay().lay(0, 0, many), Calls.INVALID);
         }
     }
@@ -245,7 +243,7 @@ public final class WorkSentencesTest {
         check.due("lay(0, 5, 1)", x.lay(0, 5, 1), Calls.INVALID);
         check.due("lay(0, 0, 30)", x.lay(0, 0, 30), 1);
         check.due("a laid one is not laid again", x.lay(0, 0, 1), Calls.ILLEGAL);
-        for (int far : FAR) {
+        for (int far : Calls.BEYOND) {
             check.due("lay(" + far + ", 0, 1)", x.lay(far, 0, 1), Calls.INVALID);
             check.due("lay(1, " + far + ", 1)", x.lay(1, far, 1), Calls.INVALID);
         }
@@ -278,7 +276,7 @@ public final class WorkSentencesTest {
         check.due("plant(0, 5) again", x.plant(0, 5), Calls.ILLEGAL);
         check.due("plant(0, 6)", x.plant(0, 6), Calls.INVALID);
         check.due("plant(6, 5)", x.plant(6, 5), Calls.INVALID);
-        for (int far : FAR) {
+        for (int far : Calls.BEYOND) {
             check.due("plant(" + far + ", 5)", x.plant(far, 5), Calls.INVALID);
             check.due("plant(0, " + far + ")", x.plant(0, far), Calls.INVALID);
         }
@@ -365,7 +363,7 @@ public final class WorkSentencesTest {
         }
         check.due("grub(0, 5)", x.grub(0, 5), Calls.INVALID);
         check.due("grub(6, 0)", x.grub(6, 0), Calls.INVALID);
-        for (int far : FAR) {
+        for (int far : Calls.BEYOND) {
             check.due("grub(" + far + ", 0)", x.grub(far, 0), Calls.INVALID);
             check.due("grub(0, " + far + ")", x.grub(0, far), Calls.INVALID);
         }
