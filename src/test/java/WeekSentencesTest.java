@@ -76,7 +76,6 @@ public final class WeekSentencesTest {
         x.lay(0, 0, 5);
         x.lay(1, 0, 1);
         for (int week = 1; week <= 60; week++) {
-            x.plant(0, 0);
             x.cut(2, week % 10);
             x.pass(1);
             check.due("count(0)", x.count(0), week);
