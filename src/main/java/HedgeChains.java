@@ -38,6 +38,8 @@ public final class HedgeChains {
     private static final int LONGEST_CONTRACT = 100;
     private static final int HIGHEST_FINE = 9;
     private static final int FINES_TO_GIVE_BACK = 5;
+    // Six fields of 30 chains, at the highest fine, cannot be so late that it comes to as much.
+    private static final int MORE_THAN_ALL_FINES = 1_000_000_000;
 
     private static final int GREATEST_CHARACTER = 255;
     private static final int NO_FAULT = -1;
@@ -985,7 +987,7 @@ public final class HedgeChains {
         }
 
         private int leastOf(int left) {
-            int fewest = Integer.MAX_VALUE;
+            int fewest = MORE_THAN_ALL_FINES;
             for (int field = 0; field < FIELDS; field++) {
                 if (isIn(field, left)) {
                     fewest = Math.min(fewest, finesIfNext(field, left));

@@ -2,8 +2,12 @@ import java.lang.reflect.Constructor;
 import java.lang.reflect.Field;
 import java.lang.reflect.Method;
 import java.lang.reflect.Modifier;
+import java.nio.file.Files;
+import java.nio.file.Path;
 import java.util.Set;
 import java.util.TreeSet;
+import java.util.regex.Matcher;
+import java.util.regex.Pattern;
 
 /** The public face: just the members that the document shows, and no others but private ones. */
 public final class FaceTest {
@@ -12,8 +16,16 @@ public final class FaceTest {
         "giveBack 1", "grub 2", "lay 3", "pass 1", "payDebt 0", "plant 2", "read 1", "restore 1", "set 2",
         "stakesIn 1", "take 1", "toLay 2", "undo 0"};
 
+    private static final String[] CONSTANTS = {"INVALID_ARGUMENT -1", "ILLEGAL_STATE -2", "CAPACITY_EXCEEDED -3", "NONE -9"};
+    private static final Path DOCUMENT = Path.of("../shared/DOC.md");
+
     public static void main(String[] args) throws Exception {
         Check check = new Check("FaceTest");
+        if (Files.isReadable(DOCUMENT)) {
+            document(check, Files.readString(DOCUMENT));
+        } else {
+            System.out.println("FaceTest: " + DOCUMENT + " is not here, so that no face is compared with it");
+        }
         check.due("the class is public and final", HedgeChains.class.getModifiers(), Modifier.PUBLIC | Modifier.FINAL);
         constants(check);
         constructors(check);
@@ -21,13 +33,28 @@ public final class FaceTest {
         check.end();
     }
 
+    private static void document(Check check, String document) {
+        String face = document.substring(document.indexOf("```java"), document.lastIndexOf("```"));
+        Set<String> methods = new TreeSet<>();
+        Set<String> constants = new TreeSet<>();
+        Matcher method = Pattern.compile("public int (\\w+)\\(([^)]*)\\);").matcher(face);
+        while (method.find()) {
+            methods.add(method.group(1) + " " + (method.group(2).isEmpty() ? 0 : method.group(2).split(",").length));
+        }
+        Matcher constant = Pattern.compile("public static final int (\\w+) = (-?\\d+);").matcher(face);
+        while (constant.find()) {
+            constants.add(constant.group(1) + " " + constant.group(2));
+        }
+        check.same("the methods of the document", methods.toString(), new TreeSet<>(Set.of(METHODS)).toString());
+        check.same("the constants of the document", constants.toString(), new TreeSet<>(Set.of(CONSTANTS)).toString());
+    }
+
     private static void constants(Check check) throws Exception {
-        String[] names = {"INVALID_ARGUMENT", "ILLEGAL_STATE", "CAPACITY_EXCEEDED", "NONE"};
-        int[] values = {-1, -2, -3, -9};
-        for (int i = 0; i < names.length; i++) {
-            Field constant = HedgeChains.class.getField(names[i]);
-            check.due(names[i], constant.getInt(null), values[i]);
-            check.due(names[i] + " modifiers", constant.getModifiers(),
+        for (String each : CONSTANTS) {
+            String[] words = each.split(" ");
+            Field constant = HedgeChains.class.getField(words[0]);
+            check.due(words[0], constant.getInt(null), Integer.parseInt(words[1]));
+            check.due(words[0] + " modifiers", constant.getModifiers(),
                     Modifier.PUBLIC | Modifier.STATIC | Modifier.FINAL);
         }
         int open = 0;
@@ -37,7 +64,7 @@ public final class FaceTest {
             }
             open += Modifier.isPrivate(any.getModifiers()) ? 0 : 1;
         }
-        check.due("fields that are not private", open, names.length);
+        check.due("fields that are not private", open, CONSTANTS.length);
     }
 
     private static void constructors(Check check) {
