@@ -307,6 +307,20 @@ public final class ForecastSentencesTest {
         check.due("the others take no time", some.bestOrder(0), 10 * (2 * 2 + 4));
         some.giveBack(4);
         check.due("nor does one that was given back", some.bestOrder(0), 20);
+        greatestFines(check);
+    }
+
+    /** The thickest and longest hedges, the least strength, the highest fines and the latest week that there can be. */
+    private static void greatestFines(Check check) {
+        HedgeChains x = new HedgeChains();
+        for (int field = 0; field < 6; field++) {
+            Calls.readHedge(x, field, "t9*30");
+            x.contract(field, 0, 0, 9);
+        }
+        x.set(2, 1);
+        Calls.weeks(x, 1000);
+        check.due("the greatest fines that there can be", x.bestOrder(0), 270 * (6 * 1000 + 270 * (1 + 2 + 3 + 4 + 5 + 6)));
+        check.due("the first field of six that are alike", x.bestOrder(1), 0);
     }
 
     /** Fields 0, 1 and 2 take 6, 3 and 2 weeks, and 20, 10 and 10 of their chains stand. */
