@@ -18,7 +18,9 @@ import javax.tools.ToolProvider;
 
 /**
  * That the test of each sentence fails if the sentence is broken: the program is changed as breaks.txt tells, and the test
- * runs with that. A break that does not fit the program (any more) is told and left out.
+ * runs with that. A break that does not fit the program any more is told and left out, but each sentence wants one that fits:
+ * where the program was changed, its breaks are to be written anew. Only a program that was written anew as a whole, which
+ * most of them do not fit, is let pass without them.
  */
 public final class BreaksTest {
     private static final Path PROGRAM = Path.of("src/main/java/HedgeChains.java");
@@ -28,6 +30,7 @@ public final class BreaksTest {
     private final Check check = new Check("BreaksTest");
     private final Path classes;
     private final Set<String> tried = new TreeSet<>();
+    private int fitting = 0;
     private int leftOut = 0;
 
     private BreaksTest(Path classes) {
@@ -62,15 +65,16 @@ public final class BreaksTest {
             String[] sides = lines[1].split("(?m)^=>", 2);
             tryOne(program, lines[0].trim(), plain(sides[0]), plain(sides[1]));
         }
+        boolean isWrittenAnew = leftOut > fitting;
         for (Class<?> tests : SentencesTest.TESTS) {
             for (Method test : Sentences.of(tests)) {
-                check.due("breaks.txt has a break for " + Sentences.name(test), tried.contains(Sentences.name(test)) ? 1 : 0, 1);
+                boolean isTried = isWrittenAnew || tried.contains(Sentences.name(test));
+                check.due("breaks.txt has a break that fits for " + Sentences.name(test), isTried ? 1 : 0, 1);
             }
         }
     }
 
     private void tryOne(String program, String test, String stands, String instead) throws Exception {
-        tried.add(test);
         int at = program.indexOf(stands);
         boolean once = at >= 0 && program.indexOf(stands, at + 1) < 0;
         if (!once || !compiles(program.substring(0, at) + instead + program.substring(at + stands.length()))) {
@@ -78,6 +82,8 @@ public final class BreaksTest {
             System.out.println("BreaksTest: does not fit: " + test + ": " + stands + " => " + instead);
             return;
         }
+        fitting++;
+        tried.add(test);
         check.due(test + " holds with " + instead + " for " + stands, holds(test) ? 1 : 0, 0);
     }
 
